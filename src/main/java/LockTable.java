@@ -592,18 +592,13 @@ public final class LockTable {
             int at = thing;
             int taken = mode;
             for (int up = 0; up < MAX_THINGS && at >= 0; up++) {
-                shiftCount(owner, at, taken, by);
+                int cell = cell(owner, at, taken);
+                int row = row(at, taken);
+                counts[cell] += by;
+                holding[row] = counts[cell] != 0 ? holding[row] | 1 << owner : holding[row] & ~(1 << owner);
                 at = whole[at];
                 taken = MEANT_ABOVE[mode];
             }
-        }
-
-        private void shiftCount(int owner, int thing, int mode, int by) {
-            int cell = cell(owner, thing, mode);
-            int row = row(thing, mode);
-            counts[cell] += by;
-            if (counts[cell] != 0) holding[row] |= 1 << owner;
-            else holding[row] &= ~(1 << owner);
         }
 
         // -- the line
@@ -741,7 +736,7 @@ public final class LockTable {
             rounds++;
         }
 
-        /** The owner's next row, which is not its next one again; -1 if it has none left. */
+        /** The owner's next row, and moves on behind it; -1 if it has none left. */
         private int takeRow(Table table, int owner) {
             for (int row = nextRow[owner]; row < table.rows; row++) {
                 if (table.rowOwner[row] == owner) {

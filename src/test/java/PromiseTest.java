@@ -128,6 +128,12 @@ public final class PromiseTest {
         due("entries all the way", x.gate(0, 0), 12);
         due("deepest all the way", x.gate(0, 1), 12);
         due("entries at the end", x.gate(11, 0), 1);
+        due("barred from the deepest to the uppermost", x.waitsFor(1) + x.ask(1, 0, SHARES), 0);
+        due("by means", x.waitsFor(1), 1);
+        x.leaves(0);
+        due("shares the uppermost", x.held(1, 0, SHARES), 1);
+        due("the deepest is barred by the uppermost", x.ask(0, 11, OWNS), 0);
+        due("by 1", x.waitsFor(0), 2);
     }
 
     // promise 3
@@ -460,7 +466,15 @@ public final class PromiseTest {
         due("mode 6", x.holders(0, 6), BAD);
         due("thing", x.holders(4, 0), BAD);
         due("thing below", x.holders(-1, 0), BAD);
-        due("held", x.held(2, 0, LOOKS), 1);
+        x.ask(4, 1, OWNS);
+        due("4 waits to own", x.holders(1, 0), 5);
+        x.leaves(0);
+        x.leaves(2);
+        due("owns alone", x.holders(1, OWNS), 16);
+        due("in any, too", x.holders(1, 0), 16);
+        x.ask(0, 2, SHARES);
+        due("looks of two", x.holders(0, LOOKS), 33);
+        due("held", x.held(5, 0, LOOKS), 1);
         due("not held", x.held(1, 0, LOOKS), 0);
         due("mode 0", x.held(0, 0, 0), BAD);
         due("mode 6", x.held(0, 0, 6), BAD);
@@ -783,6 +797,18 @@ public final class PromiseTest {
         due("two rounds", v.plays(0), 2);
         due("one each round, the last one counted", v.plays(1), 2);
         due("two served, one granted", v.plays(2), 3);
+        // the least is 0
+        LockTable w = tree();
+        w.ask(1, 2, OWNS);
+        w.ask(1, 2, OWNS);
+        w.plan(0, 1, OWNS);
+        w.plan(0, 2, OWNS);
+        w.plan(1, 1, OWNS);
+        w.plan(1, 1, OWNS);
+        // 1: 0 has 1, 1 waits. 2: 0 waits; 0 leaves, 1 has 1. 3: 0 through, 1 has 1 again. 4: 1 through
+        due("four rounds with 0 the least", w.plays(0), 4);
+        due("0 broke", w.plays(1), 1);
+        due("three granted", w.plays(2), 3);
     }
 
     // promise 21
@@ -863,6 +889,14 @@ public final class PromiseTest {
         due("3 is", x.gate(3, 0), 3);
         due("all are left", x.gate(0, 2) + x.gate(1, 2) + x.gate(3, 2), 0);
         due("a bare one itself", x.weighs(4), NOTHING);
+        LockTable y = tree();
+        y.ask(0, 2, SHARES);
+        due("a part of no weight, then one of some", y.weighs(0), 2);
+        y.thing(0, 1);
+        y.thing(0, 0);
+        due("a bare part of its own", y.weighs(0), NOTHING);
+        due("gates ahead of it", y.gate(2, 0), 2);
+        due("not the one behind it", y.gate(5, 0), 0);
         due("its sibling", x.weighs(2), 1);
         due("deepest is not more", x.gate(0, 1), 3);
     }
@@ -923,7 +957,7 @@ public final class PromiseTest {
         due("128", x.feed(128), BAD);
         due("-1", x.feed(-1), BAD);
         due("256 and 65", x.feed(321), BAD);
-        for (int k = 1; k <= 120; k++) due("byte " + k, x.feed(k % 127 + 1), k);
+        for (int k = 1; k <= 120; k++) due("byte " + k, x.feed(128 - k), k);
         due("BAD ahead of FULL", x.feed(0), BAD);
         due("FULL", x.feed(1), FULL);
         due("count", x.count(4), 120);
