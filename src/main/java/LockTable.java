@@ -181,7 +181,7 @@ public final class LockTable {
         thought.copyFrom(truth);
         thought.grants = 0;
         player.start(thought);
-        while (player.onWay != 0 && player.rounds < MAX_ROUNDS) player.playRound(thought);
+        for (int k = 0; k < MAX_ROUNDS && player.onWay != 0; k++) player.playRound(thought);
         switch (what) {
             case 0: return player.onWay == 0 ? player.rounds : MAX_ROUNDS + 1;
             case 1: return player.broken;
