@@ -295,16 +295,33 @@ final class Edges {
         }
 
         private void seeThought() {
-            for (int what = 0; what <= 2; what++) see("plays", what);
+            seePlays();
             for (int what = 0; what <= 1; what++) see("lots", 60, 77, what);
             seeHolds();
         }
 
+        /** No call tells the rows themselves: they are played while others hold some of the THINGS. */
         private void seePlan() {
-            for (int owner = 0; owner <= 5; owner++) see("leaves", owner);
             see("count", 3);
+            for (int owner = 0; owner <= 5; owner++) see("leaves", owner);
+            seePlays();
+            int things = (int) call("count", 0);
+            for (int holder = 0; holder <= 5; holder += 5) {
+                for (int mode = 2; mode <= 5; mode++) {
+                    for (int thing = 0; thing < things; thing++) call("ask", holder, thing, mode);
+                    seePlays();
+                    call("leaves", holder);
+                }
+                for (int thing = 0; thing < things; thing++) {
+                    call("ask", holder, thing, 5);
+                    seePlays();
+                    call("leaves", holder);
+                }
+            }
+        }
+
+        private void seePlays() {
             for (int what = 0; what <= 2; what++) see("plays", what);
-            seeHolds();
         }
 
         private void seeTape() {
@@ -317,7 +334,7 @@ final class Edges {
         private void seeImage() {
             see("back");
             for (int what = 0; what <= 3; what++) see("count", what);
-            for (int what = 0; what <= 2; what++) see("plays", what);
+            seePlays();
             seeLine();
             seeHolds();
         }

@@ -25,6 +25,7 @@ public final class EdgesOfHoldsTest {
         leavesAndForgets();
         breaks();
         heldAndHolders();
+        holdersInMoreModes();
         waitsAndLine();
         waitsForAndRing();
         count();
@@ -420,6 +421,17 @@ public final class EdgesOfHoldsTest {
             held 1 0 5 = 1
             waitsFor 2 = 2
             """);
+        E.edge("Terms: SERVING: without a RAISE the first: OWNER 0, then others", """
+            tree -1 0
+            ask 5 0 5 = 1
+            ask 0 1 5 = 0
+            ask 1 0 5 = 0
+            ask 2 0 2 = 0
+            leaves 5 = 1
+            held 0 1 5 = 1
+            waitsFor 1 = 1
+            waitsFor 2 = 3
+            """);
         E.edge("Terms: SERVING passes over one that can not be", """
             tree -1 -1
             ask 0 0 5 = 1
@@ -489,7 +501,7 @@ public final class EdgesOfHoldsTest {
             line 0 = 0
             waits 0 = 150
             """);
-        E.edge("Terms: GIVING UP serves the OWNER itself", """
+        E.edge("Terms: GIVING UP, then SERVING: one that shares still", """
             tree -1
             ask 0 0 2 = 1
             ask 1 0 2 = 1
@@ -650,6 +662,23 @@ public final class EdgesOfHoldsTest {
             thingOf 0 4 = 2
             ring 1 = 1
             ring 2 = 2
+            """);
+        E.edge("Terms: LEAST: COUNTS at all THINGS: of twelve, at the last one, too", CHAIN + """
+            ask 0 11 5 = 1
+            ask 0 11 4 = 1
+            ask 1 11 2 = 0
+            leaves 0 = 1
+            leaves 1 = 0
+            ask 0 11 2 = 1
+            ask 1 11 2 = 1
+            ask 1 10 2 = 1
+            ask 0 11 5 = 0
+            ask 1 10 5 = 0
+            ring 0 = 3
+            ring 1 = 0
+            ring 2 = 1
+            breaks = 0
+            held 1 10 5 = 1
             """);
         E.edge("Terms: LEAST: one with none", """
             tree -1 -1
@@ -1000,6 +1029,26 @@ public final class EdgesOfHoldsTest {
             """);
     }
 
+    private static void holdersInMoreModes() {
+        E.edge("10: an OWNER with HOLDS in more than one MODE is one bit", """
+            tree -1 0
+            ask 2 1 2 = 1
+            ask 2 1 4 = 1
+            ask 2 0 4 = 1
+            ask 2 0 5 = 1
+            holders 0 0 = 4
+            holders 1 0 = 4
+            give 2 1 4 = 0
+            holders 1 0 = 4
+            holders 0 3 = 0
+            holders 0 1 = 4
+            give 2 1 2 = 0
+            holders 1 0 = 0
+            holders 0 1 = 0
+            holders 0 0 = 4
+            """);
+    }
+
     private static void waitsAndLine() {
         E.edge("11: BAD", "tree -1\n" + Edges.each("waits ? = BAD", NO_OWNERS));
         E.edge("11: NOT: none", """
@@ -1084,6 +1133,8 @@ public final class EdgesOfHoldsTest {
     }
 
     private static void countOfGranted() {
+        E.edge("An object is used for at most 512 calls: the last of them", "thing -1 0 = 0\n"
+            + Edges.each("ask ? 0 5 = 1\ngive ? 0 5 = 0", "0", "1", "2", "3", "4").repeat(51) + "ask 5 0 5 = 1\n");
         E.edge("15: 6 ASKS GRANTED in truth: served ones, too", """
             tree -1
             ask 0 0 5 = 1

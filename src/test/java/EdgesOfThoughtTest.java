@@ -15,6 +15,7 @@ public final class EdgesOfThoughtTest {
         playsFew();
         playsOrder();
         playsFortyOne();
+        playsAnew();
         playsLeast();
         lotsRefused();
         lotsDraws();
@@ -207,6 +208,19 @@ public final class EdgesOfThoughtTest {
         E.edge("PLAN: none at first", "count 3 = 0\nplays 0 = 0\n");
         E.edge("19: FULL: 12", "tree -1 0\n" + Edges.each("plan 5 1 5 = ?", "1", "2", "3", "4", "5", "6", "7", "8", "9", "10",
             "11", "12", "FULL", "FULL") + "count 3 = 12\n");
+        E.edge("19: FULL changes none of the rows", """
+            tree -1 -1
+            plan 0 0 5 = 1
+            plan 1 0 5 = 2
+            10 x plan 2 1 2
+            plan 3 0 5 = FULL
+            plan 0 1 2 = FULL
+            plays 0 = 11
+            plays 2 = 12
+            ask 5 0 2 = 1
+            plays 0 = 41    # 0 and 1 wait for 5
+            plays 2 = 10
+            """);
         E.edge("19: BAD ahead of FULL", "tree -1\n12 x plan 0 0 2\nplan 6 0 2 = BAD\nplan 0 1 2 = BAD\nplan 0 0 3 = BAD\n");
         E.edge("19: BAD", "tree -1 0\n" + Edges.each("plan ? 0 2 = BAD", "MIN", "-2", "6", "7", "MAX")
             + Edges.each("plan 0 ? 2 = BAD", NO_THINGS) + Edges.each("plan 0 0 ? = BAD", NOT_ASKED_MODES)
@@ -368,7 +382,54 @@ public final class EdgesOfThoughtTest {
             """);
     }
 
+    private static void playsAnew() {
+        E.edge("20: no rows any more, behind one that was never THROUGH", """
+            tree -1 -1
+            ask 0 0 5 = 1
+            plan 1 0 2 = 1
+            plays 0 = 41
+            plan -1 0 0 = 0
+            plays 0 = 0
+            plan 2 1 2 = 1
+            plays 0 = 2
+            plays 2 = 1
+            """);
+        E.edge("20: played again: each play is from HOLDS, THE LINE as they are", """
+            tree -1
+            2 x plan 0 0 5
+            plays 0 = 3
+            plays 0 = 3
+            plays 2 = 2
+            ask 1 0 5 = 1
+            plays 0 = 41
+            plays 2 = 0
+            leaves 1 = 0
+            plays 0 = 3
+            plays 2 = 2
+            """);
+        E.edge("20: rows for THINGS that are gone are gone, too, behind back()", """
+            tree -1
+            image = 1
+            thing 0 0 = 1
+            plan 0 1 5 = 1
+            back = 1
+            count 3 = 0
+            plays 0 = 0
+            plan 0 1 5 = BAD
+            """);
+    }
+
     private static void playsLeast() {
+        E.edge("ROUNDS: OWNER 0 may be the LEAST", """
+            tree -1 -1
+            2 x ask 1 1 5 = 1
+            plan 0 0 5 = 1
+            plan 0 1 5 = 2
+            plan 1 0 5 = 3
+            plays 0 = 3     # 1: 0 has 0, 1 waits; 2: 0 waits, 0 is the least, 1 is served; 3: both are through
+            plays 1 = 1
+            plays 2 = 2
+            """);
         E.edge("Said once more: the LEAST may be one without rows; in each ROUND once, in the last one, too", """
             tree -1 -1 -1 -1 -1
             ask 0 0 5 = 1
@@ -384,6 +445,24 @@ public final class EdgesOfThoughtTest {
             plays 1 = 2
             plays 2 = 3
             ring 0 = 15
+            """);
+        E.edge("ROUNDS: once in each ROUND, though there is one more RING", """
+            tree -1 0 0 -1 -1 -1
+            ask 0 1 2 = 1
+            ask 1 3 5 = 1
+            ask 2 4 5 = 1
+            ask 3 5 5 = 1
+            ask 0 3 5 = 0
+            ask 1 0 5 = 0
+            ask 2 5 5 = 0
+            ask 3 4 5 = 0
+            ring 0 = 15
+            plan 5 2 2 = 1
+            plan 5 3 2 = 2
+            # 1: 5 has 2, 3 is the least; 2: 5 waits, and is the least; 3: 5 is through, 1 is the least
+            plays 0 = 3
+            plays 1 = 3
+            plays 2 = 3
             """);
         E.edge("ROUNDS: behind all of them: the RING of this ROUND", """
             tree -1 -1

@@ -1,15 +1,17 @@
 import java.util.Random;
 
-/** Long runs of chosen calls on LockTable and on Model; all answers, and all that can be looked at, must be alike. */
+/** Runs of chosen calls, 512 each, on LockTable and on Model; all answers must be alike. */
 public final class ModelTest {
-    private static final int RUNS = 400, CALLS = 300;
+    private static final int RUNS = 10000, CALLS = 512;
     private static int wrong = 0;
+    private static long looked = 0;
 
     private final int run;
     private final Random random;
     private final LockTable table = new LockTable();
     private final Model model = new Model();
     private final StringBuilder told = new StringBuilder();
+    private int calls = 0;
 
     private ModelTest(int run) {
         this.run = run;
@@ -19,11 +21,15 @@ public final class ModelTest {
     public static void main(String[] args) {
         int runs = args.length > 0 ? Integer.parseInt(args[0]) : RUNS;
         for (int run = 0; run < runs && wrong < 5; run++) new ModelTest(run).play();
-        System.out.println("ModelTest: " + runs + " runs, " + wrong + " wrong");
+        System.out.println("ModelTest: " + runs + " runs, " + looked + " answers, " + wrong + " wrong");
         if (wrong != 0) System.exit(1);
     }
 
+    /** False ends the run: what is answered beyond the last call is free. */
     private boolean same(String call, long got, long want) {
+        calls++;
+        if (calls > CALLS) return false;
+        looked++;
         if (got == want) return true;
         wrong++;
         System.out.println("run " + run + ":" + told + "\n  " + call + " answered " + got + ", due is " + want);
@@ -38,8 +44,10 @@ public final class ModelTest {
             told.append("\n  thing(" + whole + ", " + bare + ")");
             if (!same("thing", table.thing(whole, bare), model.thing(whole, bare))) return;
         }
-        for (int k = 0; k < CALLS; k++) {
-            if (!step() || !looks()) return;
+        int often = 1 + random.nextInt(40);
+        while (calls < CALLS) {
+            if (!step() || !looksShortly()) return;
+            if (random.nextInt(often) == 0 && !looks()) return;
         }
     }
 
@@ -188,6 +196,22 @@ public final class ModelTest {
             if (!tells(call, table.set(list, k, v), model.set(list, k, v))) return false;
         }
         return true;
+    }
+
+    private boolean looksShortly() {
+        int t = thing();
+        int o = owner();
+        int k = some(-1, 6);
+        switch (random.nextInt(8)) {
+            case 0: return same("ring(" + k + ")", table.ring(k), model.ring(k));
+            case 1: return same("count(" + k + ")", table.count(k), model.count(k));
+            case 2: return same("line(" + k + ")", table.line(k), model.line(k));
+            case 3: return same("waits(" + o + ")", table.waits(o), model.waits(o));
+            case 4: return same("waitsFor(" + o + ")", table.waitsFor(o), model.waitsFor(o));
+            case 5: return same("holders(" + t + ", " + k + ")", table.holders(t, k), model.holders(t, k));
+            case 6: return same("thingOf(" + t + ", " + k + ")", table.thingOf(t, k), model.thingOf(t, k));
+            default: return same("gate(" + t + ", " + k + ")", table.gate(t, k), model.gate(t, k));
+        }
     }
 
     private boolean looks() {
