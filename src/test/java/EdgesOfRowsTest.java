@@ -197,6 +197,15 @@ public final class EdgesOfRowsTest {
         E.edge("34: BAD: thing, list", "tree -1\nlist 0 3 = 1\n" + Edges.each("into ? 0 0 = BAD", "MIN", "-1", "1", "12", "MAX")
             + Edges.each("into 0 ? 0 = BAD", NO_LISTS));
         E.edge("34: NOTHING; BAD ahead of it", "tree -1\ninto 0 0 0 = NOTHING\ninto 1 0 0 = BAD\ninto 0 3 0 = BAD\n");
+        E.edge("34: NOTHING is said of the LIST: COUNTS at a BARE THING come as any", """
+            tree -1b 0
+            ask 0 0 2 = 1
+            into 0 1 0 = NOTHING
+            list 1 3 = 1
+            into 0 1 0 = 3
+            row 1 = 0 1 0
+            into 0 1 -1 = BEYOND
+            """);
         E.edge("34: BEYOND: p is below 0; BAD, NOTHING ahead of it", """
             tree -1
             fill 0 9
